@@ -725,9 +725,15 @@ public final class LampPlate {
         /** 0 where no row leads. */
         final int[] lead = new int[WIDE];
         final int[] rows = new int[WIDE * WIDE];
-        private final int[] work = new int[MOST * WIDE];
+        /** The rows that lead nowhere yet. */
+        private final int[] work;
         /** By which number, that has an inverse by m, each number comes to a divisor of m. */
         private final int[] unit = new int[MOST_COLOURS];
+
+        /** Forms that are built one after the other can have the same work, of MOST rows. */
+        Form(int[] sharedWork) {
+            work = sharedWork;
+        }
 
         /** As many rows as the tail is long, with a single 1 in the tail each. */
         void begin(int newColours, int newHeads, int tails) {
@@ -935,8 +941,9 @@ public final class LampPlate {
         private int stepsAt = -1;
         private int weightsAt = -1;
         /** Head: the pattern by lamps; tail: the pushing by free buttons. */
-        private final Form quiet = new Form();
+        private final Form quiet;
         private Form weights;
+        private final int[] work = new int[MOST * Form.WIDE];
         private Search search;
         /** The buttons that can be pushed, from the last one on: so the first in ORDER has the less ahead. */
         private int free;
@@ -946,6 +953,7 @@ public final class LampPlate {
 
         Solver(Plate newPlate) {
             plate = newPlate;
+            quiet = new Form(work);
         }
 
         void refresh() {
@@ -974,7 +982,7 @@ public final class LampPlate {
         /** Head: by free buttons, what their STEPS come to; tail: the weights by lamps. Many runs never need it. */
         private Form freshWeights() {
             if (weights == null) {
-                weights = new Form();
+                weights = new Form(work);
             }
             if (weightsAt != stepsAt) {
                 weightsAt = stepsAt;
@@ -1132,7 +1140,7 @@ public final class LampPlate {
         /** Behind solve() alone, whose vector it goes on from. */
         int tellLeast(Told told) {
             Search now = freshSearch();
-            int cost = now.findCheapest(vector);
+            int cost = now.findCheapestFor(vector);
             tellTail(now.found, told);
             return cost;
         }
@@ -1178,11 +1186,16 @@ public final class LampPlate {
             price[form.heads + r] = v;
         }
 
-        int findCheapest(int[] first) {
-            System.arraycopy(first, form.heads, vector, form.heads, form.wide - form.heads);
+        /** Of those that differ from the tail by QUIET ones; what is spent ahead of the first level is told. */
+        private int findCheapest(int[] tail, int spent) {
+            System.arraycopy(tail, form.heads, vector, form.heads, form.wide - form.heads);
             best = Integer.MAX_VALUE;
-            explore(this, 0, costOf(form.heads, endOf(-1)));
+            explore(this, 0, spent);
             return best;
+        }
+
+        int findCheapestFor(int[] first) {
+            return findCheapest(first, costOf(first, form.heads, endOf(-1)));
         }
 
         /** Up to which column the numbers are settled when those of a level are. */
@@ -1190,10 +1203,10 @@ public final class LampPlate {
             return level + 1 < levels ? columnOf[level + 1] : form.wide;
         }
 
-        private int costOf(int from, int to) {
+        private int costOf(int[] tail, int from, int to) {
             int sum = 0;
             for (int column = from; column < to; column++) {
-                sum += vector[column] * price[column];
+                sum += tail[column] * price[column];
             }
             return sum;
         }
@@ -1212,7 +1225,7 @@ public final class LampPlate {
                 if (spent + v * s.price[column] >= s.best) {
                     return;
                 }
-                int sum = spent + s.costOf(column, end);
+                int sum = spent + s.costOf(s.vector, column, end);
                 if (sum < s.best) {
                     explore(s, level + 1, sum);
                 }
@@ -1232,19 +1245,20 @@ public final class LampPlate {
         void findHardest(int[] newSteps, int newLamps) {
             steps = newSteps;
             lamps = newLamps;
-            pickFrom(this, form.heads);
+            pickFrom(this, form.heads, 0);
         }
 
         /** Every pattern that can be is that of just one tail whose numbers are below the leads. */
-        private static void pickFrom(Search s, int column) {
+        private static void pickFrom(Search s, int column, int spent) {
             if (column >= s.form.wide) {
-                s.takePicked(s.findCheapest(s.picked));
+                s.takePicked(s.findCheapest(s.picked, spent));
                 return;
             }
             int end = s.form.lead[column] == 0 ? s.form.colours : s.form.lead[column];
+            int each = column < s.endOf(-1) ? s.price[column] : 0;
             for (int v = 0; v < end; v++) {
                 s.picked[column] = v;
-                pickFrom(s, column + 1);
+                pickFrom(s, column + 1, spent + v * each);
             }
         }
 
