@@ -726,7 +726,7 @@ public final class LampPlate {
         final int[] lead = new int[WIDE];
         final int[] rows = new int[WIDE * WIDE];
         /** The rows that lead nowhere yet. */
-        private final int[] work;
+        final int[] work;
         /** By which number, that has an inverse by m, each number comes to a divisor of m. */
         private final int[] unit = new int[MOST_COLOURS];
 
@@ -805,7 +805,7 @@ public final class LampPlate {
             return pivot;
         }
 
-        /** Euclid's way with two rows; each swap leaves a lesser pivot, so there are few. */
+        /** Euclid's way with two rows; the first pivot divides m, so the last one does. */
         private int clearOne(int pivot, int row, int column) {
             int upper = pivot;
             int lower = row;
@@ -819,7 +819,6 @@ public final class LampPlate {
                     int swap = upper;
                     upper = lower;
                     lower = swap;
-                    multiply(upper, column, unit[work[upper * WIDE + column]]);
                 }
             }
             return upper;
@@ -835,11 +834,11 @@ public final class LampPlate {
             return nought;
         }
 
-        /** The row leads that column; what is left of it open is the multiple that is 0 there. */
+        /**
+         * The row leads that column; what is left of it open is the multiple that is 0 there. Ahead of its column
+         * nothing is ever written to a row, so it stays 0.
+         */
         private void settle(int pivot, int column) {
-            for (int i = 0; i < column; i++) {
-                rows[column * WIDE + i] = 0;
-            }
             System.arraycopy(work, pivot * WIDE + column, rows, column * WIDE + column, wide - column);
             lead[column] = work[pivot * WIDE + column];
             int order = colours / Math.max(1, lead[column]);
@@ -943,7 +942,6 @@ public final class LampPlate {
         /** Head: the pattern by lamps; tail: the pushing by free buttons. */
         private final Form quiet;
         private Form weights;
-        private final int[] work = new int[MOST * Form.WIDE];
         private Search search;
         /** The buttons that can be pushed, from the last one on: so the first in ORDER has the less ahead. */
         private int free;
@@ -953,7 +951,7 @@ public final class LampPlate {
 
         Solver(Plate newPlate) {
             plate = newPlate;
-            quiet = new Form(work);
+            quiet = new Form(new int[MOST * Form.WIDE]);
         }
 
         void refresh() {
@@ -982,7 +980,7 @@ public final class LampPlate {
         /** Head: by free buttons, what their STEPS come to; tail: the weights by lamps. Many runs never need it. */
         private Form freshWeights() {
             if (weights == null) {
-                weights = new Form(work);
+                weights = new Form(quiet.work);
             }
             if (weightsAt != stepsAt) {
                 weightsAt = stepsAt;
@@ -1128,9 +1126,9 @@ public final class LampPlate {
 
         private Search freshSearch() {
             if (search == null) {
-                search = new Search();
+                search = new Search(quiet, steps);
             }
-            search.begin(quiet);
+            search.begin(plate.lamps);
             for (int r = 0; r < free; r++) {
                 search.putPrice(r, plate.price[buttonOf[r]]);
             }
@@ -1147,7 +1145,7 @@ public final class LampPlate {
 
         int tellWorst(Told told) {
             Search now = freshSearch();
-            now.findHardest(steps, plate.lamps);
+            now.findHardest();
             tellByLamps(now.hardest, 0, told);
             return now.greatest;
         }
@@ -1155,9 +1153,10 @@ public final class LampPlate {
 
     /** Goes through the tails that differ by QUIET ones, in ORDER, and leaves out what can't be cheaper. */
     private static final class Search {
-        private Form form;
+        private final Form form;
+        /** By tail columns and lamps. */
+        private final int[] steps;
         private int lamps;
-        private int[] steps;
         private int levels;
         private final int[] columnOf = new int[MOST];
         private final int[] price = new int[Form.WIDE];
@@ -1170,8 +1169,14 @@ public final class LampPlate {
         /** The pattern whose least COST is the greatest. */
         final int[] hardest = new int[MOST];
 
-        void begin(Form newForm) {
-            form = newForm;
+        Search(Form quiet, int[] stepsOfTails) {
+            form = quiet;
+            steps = stepsOfTails;
+        }
+
+        /** To be called when the form, the lamps or the prices may have changed. */
+        void begin(int newLamps) {
+            lamps = newLamps;
             levels = 0;
             greatest = NONE;
             for (int column = form.heads; column < form.wide; column++) {
@@ -1242,9 +1247,7 @@ public final class LampPlate {
             System.arraycopy(vector, form.heads, found, form.heads, form.wide - form.heads);
         }
 
-        void findHardest(int[] newSteps, int newLamps) {
-            steps = newSteps;
-            lamps = newLamps;
+        void findHardest() {
             pickFrom(this, form.heads, 0);
         }
 

@@ -526,6 +526,12 @@ public final class PromisesTest {
         for (int what = 0; what < want.length; what++) {
             c.due("count(" + what + ")", x.count(what), want[what]);
         }
+        LampPlate y = made(36, 12, 6);
+        for (int i = 0; i < 36; i++) {
+            y.light(i, 11);
+        }
+        c.due("count(5)", y.count(5), 36);
+        c.due("count(6)", y.count(6), 396);
         c.due("count(-1)", x.count(-1), -1);
         c.due("count(8)", x.count(8), -1);
         c.due("count(MIN)", x.count(MIN), -1);
@@ -652,6 +658,7 @@ public final class PromisesTest {
         a.base(1);
         a.count(4);
         c.due("next() behind calls that are no acts", a.next(), 1);
+        nextBehindOtherSearches();
         LampPlate b = ready();
         b.undo();
         c.due("undo()", b.next(), -1);
@@ -695,6 +702,21 @@ public final class PromisesTest {
         e.can();
         e.chase();
         c.due("chase()", e.next(), -1);
+    }
+
+    /** Searches that tell no ROW leave the one that next() goes on from. */
+    private static void nextBehindOtherSearches() {
+        LampPlate x = made(1, 2, 1);
+        for (int k = 0; k < 17; k++) {
+            x.button(0, 0, 0, 0);
+        }
+        c.due("can()", x.can(), 1);
+        c.due("next()", x.next(), 1);
+        c.due("least()", x.least(), -2);
+        c.due("worst()", x.worst(), -2);
+        c.due("next()", x.next(), 1);
+        c.due("row(0)", x.row(0), 0);
+        c.due("row(1)", x.row(1), 1);
     }
 
     private static void row() {
