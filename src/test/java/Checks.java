@@ -8,6 +8,10 @@ final class Checks {
         part = name;
     }
 
+    String part() {
+        return part;
+    }
+
     void due(String call, long got, long want) {
         all++;
         if (got != want) {
