@@ -10,6 +10,10 @@ public final class LampPlate {
     private static final int MOST_COST = 1000;
     private static final int MOST_TIMES = 1000000;
     private static final int MOST_SEARCHED = 65536;
+    /** More than any PUSHING costs. */
+    private static final int ABOVE_ALL = MOST * MOST_COLOURS * MOST_COST;
+    /** 8 is 2 * 2 * 2, and no number of colours has a prime more often. */
+    private static final int MOST_OFTEN = 3;
 
     private static final int PLAIN = 0;
     private static final int CROSS = 1;
@@ -1099,9 +1103,9 @@ public final class LampPlate {
         }
 
         private static int howOften(int prime, int number) {
-            int count = 0;
             int rest = number;
-            for (int power = prime; power <= number && rest % prime == 0; power *= prime) {
+            int count = 0;
+            while (count < MOST_OFTEN && rest % prime == 0) {
                 rest /= prime;
                 count++;
             }
@@ -1194,7 +1198,7 @@ public final class LampPlate {
         /** Of those that differ from the tail by QUIET ones; what is spent ahead of the first level is told. */
         private int findCheapest(int[] tail, int spent) {
             System.arraycopy(tail, form.heads, vector, form.heads, form.wide - form.heads);
-            best = Integer.MAX_VALUE;
+            best = ABOVE_ALL;
             explore(this, 0, spent);
             return best;
         }

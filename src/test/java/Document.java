@@ -1,7 +1,9 @@
 import java.io.IOException;
 import java.nio.file.Files;
 import java.nio.file.Path;
+import java.util.ArrayList;
 import java.util.LinkedHashMap;
+import java.util.List;
 import java.util.Map;
 
 /** The sections of ../shared/DOC.md, and which of their words a test holds. */
@@ -23,6 +25,19 @@ final class Document {
     private static String plain(String text) {
         return text.replaceAll("```text", "").replaceAll("`[^`\n]+`: ", "").replace("`", "")
             .replaceAll("(?m)^\\d\\. ", "").replaceAll("\\s+", " ").trim();
+    }
+
+    /** The lines of 'The public face' that end a constant, the constructor or a method, without what all of them have. */
+    static List<String> face() throws IOException {
+        String text = Files.readString(PLACE);
+        String block = text.substring(text.indexOf("```java"), text.indexOf("## Terms"));
+        List<String> members = new ArrayList<>();
+        for (String line : block.split("\n")) {
+            if (line.endsWith(";")) {
+                members.add(line.trim().replace("public ", "").replace(";", ""));
+            }
+        }
+        return members;
     }
 
     /** Answers whether the section says so. */

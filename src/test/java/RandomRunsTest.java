@@ -3,7 +3,7 @@ import java.util.Random;
 /** Runs of calls drawn by a fixed seed on small plates, each answer against the Oracle's. */
 public final class RandomRunsTest {
     private static final int RUNS = 1500;
-    private static final int CALLS = 250;
+    private static final int CALLS = 512;
     private static final int MOST_ROWS = 1300;
     private static final long[] ODD_LONGS = {0, 1, -1, 127, 128, 255, -129, 32768, -32769, 1L << 31, 1L << 35,
         Long.MIN_VALUE, Long.MAX_VALUE, 0x5555555555555555L};
@@ -35,9 +35,11 @@ public final class RandomRunsTest {
         }
     }
 
+    /** In half of the runs plates stay for long, so that more ACTS come than can be taken back. */
     private void run() {
+        int stays = random.nextBoolean() ? 80 : 2000;
         for (int call = 0; call < CALLS && wrong == 0; call++) {
-            if (call == 0 || random.nextInt(80) == 0) {
+            if (call == 0 || random.nextInt(stays) == 0) {
                 plate();
                 continue;
             }

@@ -1,4 +1,5 @@
 import java.lang.management.ManagementFactory;
+import java.lang.reflect.Constructor;
 import java.lang.reflect.Field;
 import java.lang.reflect.Member;
 import java.lang.reflect.Method;
@@ -7,20 +8,17 @@ import java.nio.file.Files;
 import java.nio.file.Path;
 import java.util.Random;
 import java.util.Set;
+import java.util.StringJoiner;
 import java.util.TreeSet;
 import java.util.regex.Matcher;
 import java.util.regex.Pattern;
 
 /** The face, the words that LANGUAGE.md rules out, any arguments in any state, and the room that a run takes. */
 public final class RulesTest {
-    private static final String[] FACE = {
-        "boolean plate(int,int,int)", "int button(int,int,int,int)", "boolean board(int,int)", "boolean entry(int,long)",
-        "int wire(int)", "int cost(int,int)", "int light(int,int)", "int push(int,int)", "int chase()", "int undo()",
-        "boolean keep()", "boolean back()", "int count(int)", "int shown(int)", "int step(int,int)", "int can()", "int next()",
-        "int row(int)", "int primes(int,int)", "int base(int)", "int element(int,int)", "long least()", "long worst()",
-        "int apply()", "int tell(int)", "int check(int)"};
     private static final String FORBIDDEN = "\\b(throw|throws|try|catch|finally|synchronized|assert|record|Random|Thread|System\\.(?!arraycopy)"
         + "|protected|\\w+Exact|static\\s*\\{|new\\s+\\w+\\s*\\([^)]*\\)\\s*\\{)|->|::";
+    /** Of rule 4's library what the class needs; all else of a name with a capital must be its own. */
+    private static final Set<String> LIBRARY = Set.of("Arrays.fill(", "System.arraycopy(", "Math.abs(", "Math.max(", "Math.min(", "Math.floorMod(");
     private static final Checks c = new Checks();
 
     public static void main(String[] args) throws Exception {
@@ -34,44 +32,56 @@ public final class RulesTest {
         c.end();
     }
 
-    private static String signature(Method method) {
-        StringBuilder text = new StringBuilder(method.getReturnType().getName()).append(' ').append(method.getName()).append('(');
-        for (int i = 0; i < method.getParameterCount(); i++) {
-            text.append(i == 0 ? "" : ",").append(method.getParameterTypes()[i].getName());
-        }
-        return text.append(')').toString();
-    }
-
     private static boolean isPrivate(Member member) {
         return Modifier.isPrivate(member.getModifiers()) || member.isSynthetic();
     }
 
-    private static void face() {
+    /** As the document writes a method or constructor, but without the parameters' names. */
+    private static String written(String answer, String name, Class<?>[] parameters) {
+        StringJoiner types = new StringJoiner(", ", "(", ")");
+        for (Class<?> parameter : parameters) {
+            types.add(parameter.getName());
+        }
+        return answer + name + types;
+    }
+
+    private static void face() throws Exception {
         c.part("face");
         c.due("public and final", LampPlate.class.getModifiers(), Modifier.PUBLIC | Modifier.FINAL);
-        Set<String> wanted = new TreeSet<>(Set.of(FACE));
+        Set<String> wanted = new TreeSet<>();
+        for (String member : Document.face()) {
+            wanted.add(member.replaceAll("(int|long) \\w+(?=[,)])", "$1"));
+        }
         Set<String> found = new TreeSet<>();
         for (Method method : LampPlate.class.getDeclaredMethods()) {
             if (!isPrivate(method)) {
-                found.add(signature(method));
+                found.add(written(method.getReturnType().getName() + " ", method.getName(), method.getParameterTypes()));
                 c.due(method + " is public and no more", method.getModifiers(), Modifier.PUBLIC);
             }
         }
-        c.due("the methods are " + found, found.equals(wanted), true);
-        c.due("constructors", LampPlate.class.getDeclaredConstructors().length, 1);
-        c.due("public constructors", LampPlate.class.getConstructors().length, 1);
+        for (Constructor<?> made : LampPlate.class.getDeclaredConstructors()) {
+            found.add(written("", made.getName(), made.getParameterTypes()));
+            c.due(made + " is public", made.getModifiers(), Modifier.PUBLIC);
+        }
         for (Field field : LampPlate.class.getDeclaredFields()) {
-            boolean constant = field.getName().equals("NONE") || field.getName().equals("SPENT");
-            c.due(field + " is private or the document's", isPrivate(field) != constant, true);
+            if (!isPrivate(field)) {
+                found.add("static final int " + field.getName() + " = " + field.getInt(null));
+                c.due(field + " is a constant", field.getModifiers(), Modifier.PUBLIC | Modifier.STATIC | Modifier.FINAL);
+            }
             c.due(field + ", if static, is final", !Modifier.isStatic(field.getModifiers()) || Modifier.isFinal(field.getModifiers()), true);
         }
+        c.due("2 constants, a constructor and 26 methods", wanted.size(), 29);
+        c.due("the document's " + wanted + " are the class's " + found, found.equals(wanted), true);
     }
 
-    private static void nested() {
+    private static void nested() throws Exception {
         c.part("classes inside");
         Set<String> names = new TreeSet<>();
-        for (String line : FACE) {
-            names.add(line.substring(line.indexOf(' ') + 1, line.indexOf('(')));
+        for (String member : Document.face()) {
+            names.add(member.replaceAll("\\(.*", "").replaceAll(".* ", ""));
+        }
+        for (Method method : LampPlate.class.getDeclaredMethods()) {
+            c.due(method + " is private and bears a name of the face", isPrivate(method) && names.contains(method.getName()), false);
         }
         c.due("at most twelve", LampPlate.class.getDeclaredClasses().length <= 12, true);
         for (Class<?> inside : LampPlate.class.getDeclaredClasses()) {
@@ -99,6 +109,11 @@ public final class RulesTest {
         Matcher imports = Pattern.compile("(?m)^import (.*);$").matcher(code);
         while (imports.find()) {
             c.due("import " + imports.group(1), imports.group(1).equals("java.util.Arrays"), true);
+        }
+        Matcher uses = Pattern.compile("\\b[A-Z]\\w*[a-z]\\w*\\.\\w+\\(?").matcher(code);
+        while (uses.find()) {
+            boolean own = uses.group().matches("(Board|History|Told|Form)\\.[A-Z_]+");
+            c.due(uses.group() + " is the class's own or in the library", own || LIBRARY.contains(uses.group()), true);
         }
         int lines = 0;
         for (String line : code.split("\n")) {
@@ -132,7 +147,7 @@ public final class RulesTest {
             if (random.nextInt(50) == 0) {
                 x.plate(1 + random.nextInt(36), 2 + random.nextInt(11), 1 + random.nextInt(6));
             }
-            lowest = Math.min(lowest, anyCall(x, random.nextInt(FACE.length + 12), random));
+            lowest = Math.min(lowest, anyCall(x, random.nextInt(38), random));
         }
         c.due("the lowest answer", lowest, Math.max(-2, lowest));
     }

@@ -3,8 +3,9 @@ import java.util.Map;
 import java.util.TreeMap;
 
 /**
- * Runs the tests that hold one sentence of the document each. A test's name begins with its term or promise (t1, p03), its
- * first line says the sentence; a sentence of a term or promise that no test says is a wrong answer too.
+ * Runs the tests that hold one sentence of the document each. A test's name begins with its term or promise (t1, p03; t0 is
+ * what stands before and behind them), its first line says the sentence; a sentence that no test says is a wrong answer too,
+ * but for the face, which is RulesTest's.
  */
 public final class SentencesTest {
     static final Checks c = new Checks();
@@ -12,15 +13,18 @@ public final class SentencesTest {
 
     public static void main(String[] args) throws Exception {
         document = new Document();
+        runAll(FrameSentences.class);
         runAll(TermSentences.class);
         runAll(PlateSentences.class);
         runAll(PushingSentences.class);
         runAll(RefusalSentences.class);
         c.part("the document");
+        none("What it is");
         none("Terms");
         for (int promise = 1; promise <= 27; promise++) {
             none("Promise " + promise);
         }
+        none("Not promised");
         c.end();
     }
 
@@ -28,6 +32,11 @@ public final class SentencesTest {
     static void holds(String section, String sentence) {
         c.part(section + ", \"" + sentence + "\"");
         c.due("the document says so", document.hold(section, sentence), true);
+    }
+
+    /** Words that ask for nothing, so that no test is due for them. */
+    static void free(String section, String words) {
+        c.due("the document leaves it free: " + words, document.hold(section, words), true);
     }
 
     private static void none(String section) {

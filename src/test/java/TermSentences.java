@@ -1,4 +1,4 @@
-/** 'Terms' 1 to 4 of the document, sentence by sentence, at their edges; t0 is of what stands ahead of them. */
+/** 'Terms' 1 to 4 of the document, sentence by sentence, at their edges. */
 final class TermSentences {
     private static final String TERMS = "Terms";
     private static final Checks c = SentencesTest.c;
@@ -897,18 +897,5 @@ final class TermSentences {
         c.row("why", x, 0, 1);
         x.undo();
         c.row("why, behind undo()", x, 0, 1);
-    }
-
-    static void t0AtMost512Calls() {
-        SentencesTest.holds("What it is", "An object is used for at most 512 calls after it has been made;");
-        LampPlate x = new LampPlate();
-        x.plate(4, 5, 2);
-        x.button(1, 0, 1, 0);
-        for (int call = 3; call <= 509; call++) {
-            c.due("push(0, 1), call " + call, x.push(0, 1), 3);
-        }
-        c.due("shown(0), call 510", x.shown(0), 507 % 5);
-        c.due("can(), call 511", x.can(), 1);
-        c.due("row(0), call 512", x.row(0), 507 % 5);
     }
 }
