@@ -13,10 +13,13 @@ public final class RandomRunsTest {
     private final LampPlate x = new LampPlate();
     private final Oracle o = new Oracle();
     private final StringBuilder log = new StringBuilder();
+    /** In half of the runs plates stay for long, so that more ACTS come than can be taken back. */
+    private final boolean stays;
     private int wrong;
 
     private RandomRunsTest(long seed) {
         random = new Random(seed);
+        stays = seed % 2 == 0;
     }
 
     public static void main(String[] args) {
@@ -35,11 +38,9 @@ public final class RandomRunsTest {
         }
     }
 
-    /** In half of the runs plates stay for long, so that more ACTS come than can be taken back. */
     private void run() {
-        int stays = random.nextBoolean() ? 80 : 2000;
         for (int call = 0; call < CALLS && wrong == 0; call++) {
-            if (call == 0 || random.nextInt(stays) == 0) {
+            if (call == 0 || random.nextInt(stays ? 2000 : 80) == 0) {
                 plate();
                 continue;
             }
@@ -168,7 +169,7 @@ public final class RandomRunsTest {
                 due("keep()", x.keep() ? 1 : 0, o.keep());
                 break;
             default:
-                if (random.nextInt(3) == 0) {
+                if (random.nextInt(stays ? 60 : 3) == 0) {
                     due("back()", x.back() ? 1 : 0, o.back());
                 } else {
                     due("apply()", x.apply(), o.apply());
@@ -178,7 +179,7 @@ public final class RandomRunsTest {
     }
 
     private void makeCrosses() {
-        if (random.nextInt(4) != 0) {
+        if (stays || random.nextInt(4) != 0) {
             return;
         }
         while (o.undo() >= 0) {
